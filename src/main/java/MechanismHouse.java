@@ -1264,7 +1264,10 @@ public final class MechanismHouse {
                 going = text.hasStatement(GRAMMAR) && isTaken(text, k);
             }
             if (text.fault == 0) {
-                arrange(text);
+                int stuck = arrange();
+                if (stuck >= 0) {
+                    text.note(4, placeOfTeller(text, stuck));
+                }
             }
             return text.fault == 0;
         }
@@ -1312,8 +1315,8 @@ public final class MechanismHouse {
             }
         }
 
-        /** Orders the POINTS so that each comes behind those it hangs on. */
-        private void arrange(Text text) {
+        /** Orders the POINTS so that each comes behind those it hangs on: the first that can't be, or -1. */
+        private int arrange() {
             long placed = 0;
             int sorted = 0;
             for (int round = 0; round < size && sorted < size; round++) {
@@ -1322,17 +1325,16 @@ public final class MechanismHouse {
                         placed |= 1L << p;
                         order[sorted] = p;
                         sorted++;
+                        inheritMask(joints[p]);
                     }
                 }
             }
             for (int p = 0; p < size; p++) {
                 if ((placed >> p & 1) == 0) {
-                    text.note(4, placeOfTeller(text, p));
+                    return p;
                 }
             }
-            for (int k = 0; k < sorted; k++) {
-                inheritMask(joints[order[k]]);
-            }
+            return -1;
         }
 
         private static boolean isReady(Joint c, long placed) {
@@ -1406,7 +1408,10 @@ public final class MechanismHouse {
                         case Joint.CRANK: c.status = placeCrank(c); break;
                         case Joint.DYAD: c.status = placeDyad(c); break;
                         case Joint.SLIDE: c.status = placeSlide(c); break;
-                        case Joint.BODY: c.status = placeBody(c); break;
+                        case Joint.BODY:
+                            span(c, c.at, joints[c.on[0]].at, joints[c.on[1]].at);
+                            c.status = openOr(c, SURE);
+                            break;
                         case Joint.CROSS: c.status = placeCross(c); break;
                         default: c.status = placeFix(c); break;
                     }
@@ -1524,11 +1529,6 @@ public final class MechanismHouse {
             }
             h.keep(0, h.hi);
             return DOUBTFUL;
-        }
-
-        private int placeBody(Joint c) {
-            span(c, c.at, joints[c.on[0]].at, joints[c.on[1]].at);
-            return openOr(c, SURE);
         }
 
         /** A + X (B - A) + Y TURNED(B - A), of places or of speeds. */
@@ -1933,8 +1933,13 @@ public final class MechanismHouse {
                 int chosen = firstWith(s, present);
                 if (chosen >= 0) {
                     changePlaces(chosen, present);
-                    if (!isDivided(present, s) || !isTakenFromOthers(present, s)) {
+                    if (!isDivided(present, s)) {
                         return false;
+                    }
+                    for (int r = 0; r < rows; r++) {
+                        if (r != present && tops[r][s] != 0 && !isTaken(r, present, s)) {
+                            return false;
+                        }
                     }
                     pivots[s] = present;
                     present++;
@@ -1971,15 +1976,6 @@ public final class MechanismHouse {
                     return false;
                 }
                 writeCell(row, c);
-            }
-            return true;
-        }
-
-        private boolean isTakenFromOthers(int present, int s) {
-            for (int r = 0; r < rows; r++) {
-                if (r != present && tops[r][s] != 0 && !isTaken(r, present, s)) {
-                    return false;
-                }
             }
             return true;
         }
