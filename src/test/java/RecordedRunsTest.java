@@ -1,0 +1,69 @@
+import java.io.IOException;
+import java.lang.reflect.InvocationTargetException;
+import java.lang.reflect.Method;
+import java.nio.file.DirectoryStream;
+import java.nio.file.Files;
+import java.nio.file.Path;
+import java.util.HashMap;
+import java.util.Map;
+
+/**
+ * All promises: runs of calls with the answers that a second program gave, written from the document alone
+ * (in Python, with whole numbers and fractions of any size). A line is a call and its answer, or "new".
+ */
+public final class RecordedRunsTest {
+    private static final Map<String, Method> methods = new HashMap<>();
+
+    public static void main(String[] args) throws Exception {
+        for (Method method : MechanismHouse.class.getMethods()) {
+            methods.put(method.getName(), method);
+        }
+        int wrong = 0;
+        int files = 0;
+        try (DirectoryStream<Path> runs = Files.newDirectoryStream(Path.of("src/test/runs"), "*.txt")) {
+            for (Path file : runs) {
+                files++;
+                wrong += wrongIn(file);
+            }
+        }
+        if (wrong > 0 || files == 0) {
+            System.out.println(wrong + " wrong in " + files + " files");
+            System.exit(1);
+        }
+    }
+
+    private static int wrongIn(Path file) throws IOException, IllegalAccessException {
+        MechanismHouse house = new MechanismHouse();
+        int wrong = 0;
+        int line = 0;
+        for (String row : Files.readAllLines(file)) {
+            line++;
+            if (row.equals("new")) {
+                house = new MechanismHouse();
+                continue;
+            }
+            String[] sides = row.split(" = ");
+            String got = answer(house, sides[0].split(" "));
+            if (!got.equals(sides[1])) {
+                wrong++;
+                System.out.println(file + ":" + line + ": " + sides[0] + " answered " + got + ", due is " + sides[1]);
+            }
+        }
+        return wrong;
+    }
+
+    private static String answer(MechanismHouse house, String[] words) throws IllegalAccessException {
+        Object[] values = new Object[words.length - 1];
+        for (int k = 0; k < values.length; k++) {
+            String word = words[k + 1];
+            boolean truth = word.equals("true") || word.equals("false");
+            values[k] = truth ? (Object) Boolean.valueOf(word) : (Object) Integer.valueOf(word);
+        }
+        try {
+            Object answer = methods.get(words[0]).invoke(house, values);
+            return answer == null ? "void" : answer.toString();
+        } catch (InvocationTargetException e) {
+            return e.getCause().getClass().getSimpleName();
+        }
+    }
+}
