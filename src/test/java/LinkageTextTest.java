@@ -66,6 +66,8 @@ public final class LinkageTextTest {
 
     private static void tokens() {
         fault("fix A @ 0;", 1, 6);
+        fault("fix @ 0 0;", 1, 4);
+        fault("fix A 0 0;\u0000", 1, 10);
         fault("fix A 0 0;\u00ff", 1, 10);
         fault("fix A 0\u0000 0;", 1, 7);
         fault("fix A 1/ 2;", 1, 7);
@@ -165,6 +167,14 @@ public final class LinkageTextTest {
         taken("fix A 1 0;crank B A 1 0 1 0;", 2);
         check.due("count(2) goes", house.count(2), 0);
         check.refuses("the masses go", Check.MISSING, () -> house.middle(0, 0, 0));
+        for (int i = 0; i < 4; i++) {
+            house.input(i, 9);
+        }
+        taken("fix A 1 0;crank B A 1 0 1 0;", 2);
+        taken("fix A 1 0;crank B A 1 0 1 0;", 2);
+        for (int i = 0; i < 4; i++) {
+            check.due("an INPUT's place goes", house.count(2 + i), 0);
+        }
         house.load(1, 0, 1000);
         check.due("moment", house.moment(0, 0, 0), -65536000);
         taken("fix A 1 0;crank B A 1 0 1 0;", 2);

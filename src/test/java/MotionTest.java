@@ -55,6 +55,11 @@ public final class MotionTest {
         range(house, 0, 0, 396, 2, 393);
         house = Check.linked("fix A 0 0;fix B 4 0;crank C A 3 0 1 300;dyad D C B 2 2 +;");
         range(house, 0, 0, 366, 1, 518);
+        house = Check.linked("fix A 0 0;fix B 4 0;crank C A 3 0 1 818;dyad D C B 2 2 +;");
+        range(house, 0, 0, 365, 1, 0);
+        range(house, 0, 3, 1024, 1, 0);
+        house = Check.linked("fix A 0 0;fix B 4 0;crank C A 3 0 1 172;dyad D C B 2 2 +;");
+        range(house, 0, 0, 408, 1, 617);
         house = Check.linked("fix A 0 0;fix B 40 0;crank C A 3 0 1 0;dyad D C B 2 2 +;");
         range(house, 0, 0, 0, 0, -1);
         range(Check.linked(TURNER), 1, 0, 1024, 1, 0);
@@ -94,6 +99,9 @@ public final class MotionTest {
         MechanismHouse turner = Check.linked(TURNER);
         check.due("the whole circle", turner.spread(0, 0, 2, 0, 0), -65536);
         check.due("the whole circle", turner.spread(0, 0, 2, 1, 1), 65536);
+        check.due("place 0 too", turner.spread(0, 0, 2, 0, 1), 65536);
+        check.due("place 768 too", turner.spread(0, 0, 2, 1, 0), -65536);
+        check.due("INPUT 3", turner.spread(0, 3, 2, 0, 0), 65536);
     }
 
     private static void leasts() {
@@ -106,6 +114,15 @@ public final class MotionTest {
         check.due("least of one", house.least(0, 0, 1, 1, 1), 0);
         check.due("count(2) stays", house.count(2), 501);
         check.refuses("no place", Check.MISSING, () -> house.least(0, 2, 0, 1, 0));
+        check.due("INPUT 3", Check.linked(TURNER).least(0, 3, 1, 2, 0), 9 * 65536);
+        check.due("at place 0 alone", Check.linked(TURNER).least(0, 0, 1, 2, 1), 9 * 65536);
+        // A square of a box round 0 begins with 0.
+        MechanismHouse wide = Check.linked("fix A 0 0;crank B A 60 0 1 0;body C A B 60 0;");
+        wide.input(0, 100);
+        check.due("C's lesser x", wide.at(0, 2, 0, 0), 173458800);
+        check.due("C's greater x", wide.at(0, 2, 0, 1), 173462400);
+        check.due("a wide one and itself", wide.least(0, 1, 2, 2, 0), 0);
+        check.due("a wide one and itself", wide.least(0, 1, 2, 2, 1), 396);
         // 200 squared is above 2^15: OPEN, and left out.
         MechanismHouse far = Check.linked("fix A 0 0;fix B 50 0;body C A B 4 0;crank D A 30 0 1 0;");
         check.refuses("only OPEN ones", Check.MISSING, () -> far.least(0, 0, 0, 2, 0));

@@ -138,6 +138,19 @@ public final class PlateTest {
         far(house, 0, 1);
         plate(house, 1, 6, 2, 6, 2, 6, 2);
         far(house, 4, 1);
+        // A corner, not the first, touches an edge from without.
+        plate(house, 1, 5, -5, 2, 0, -1, -5);
+        far(house, 0, 1);
+        plate(house, 1, 5, 9, 2, 4, -1, 9);
+        far(house, 0, 1);
+        plate(house, 1, -5, 5, 0, 2, -5, -1);
+        far(house, 0, 1);
+        // One in the other, near its slanted edges.
+        plate(house, 0, 0, 0, 30, 1, 29, 29);
+        plate(house, 1, 20, 10, 25, 24, 24, 22);
+        far(house, 0, 1);
+        plate(house, 1, 25, 24, 20, 10, 3, 1);
+        far(house, 0, 1);
         plate(house, 0, -1000, -1000, -999, -1000, -1000, -999);
         plate(house, 1, 1000, 999, 999, 1000, 1000, 1000);
         far(house, 2 * 1999 * 1999, 1);
@@ -153,7 +166,9 @@ public final class PlateTest {
         check.refuses("corner p", Check.BAD, () -> house.corner(8, 0, 0));
         check.refuses("corner p", Check.BAD, () -> house.corner(-1, 0, 0));
         check.refuses("corner x", Check.BAD, () -> house.corner(0, -1001, 0));
+        check.refuses("corner x", Check.BAD, () -> house.corner(0, 1001, 0));
         check.refuses("corner y", Check.BAD, () -> house.corner(0, 0, 1001));
+        check.refuses("corner y", Check.BAD, () -> house.corner(0, 0, -1001));
         check.refuses("empty p", Check.BAD, () -> house.empty(8));
         check.refuses("empty p", Check.BAD, () -> house.empty(-1));
         check.refuses("plate p", Check.BAD, () -> house.plate(8, 0));
@@ -161,6 +176,9 @@ public final class PlateTest {
         check.refuses("plate what", Check.BAD, () -> house.plate(0, -1));
         check.refuses("inside p", Check.BAD, () -> house.inside(-1, 0, 0));
         check.refuses("inside x", Check.BAD, () -> house.inside(0, 1001, 0));
+        check.refuses("inside p", Check.BAD, () -> house.inside(8, 0, 0));
+        check.refuses("inside x", Check.BAD, () -> house.inside(0, -1001, 0));
+        check.refuses("inside y", Check.BAD, () -> house.inside(0, 0, 1001));
         check.refuses("inside y", Check.BAD, () -> house.inside(0, 0, -1001));
         check.refuses("distance p", Check.BAD, () -> house.distance(8, 0, 0));
         check.refuses("distance q", Check.BAD, () -> house.distance(0, -1, 0));

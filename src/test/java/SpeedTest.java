@@ -57,6 +57,7 @@ public final class SpeedTest {
         speed(house, 0, 10, new long[] {-665898, -665401, 0, 0});
         speed(house, 1, 9, new long[] {16308, 16324, -130060, -130044});
         speed(house, 2, 9, new long[] {0, 0, 0, 0});
+        speed(house, 3, 9, new long[] {0, 0, 0, 0});
         check.due("the places stay", house.count(2), 100);
     }
 
@@ -88,9 +89,9 @@ public final class SpeedTest {
         check.refuses("pole of one and itself", Check.MISSING, () -> house.pole(0, 0, 2, 2, 0, 0));
         check.refuses("pole for an INPUT at rest", Check.MISSING, () -> house.pole(0, 2, 2, 3, 0, 0));
         // C and D go round A together: the pole is A.
-        MechanismHouse wheel = Check.linked("fix A 1 2;crank C A 3 0 1 0;crank D A 4 0 1 256;");
+        MechanismHouse wheel = Check.linked("fix A 1 2;crank C A 3 3 1 0;crank D A 4 3 1 256;");
         for (int k = 0; k < 4; k++) {
-            check.due("pole of the wheel " + k, wheel.pole(0, 0, 1, 2, k / 2, k % 2), (1 + k / 2) * ONE);
+            check.due("pole of the wheel " + k, wheel.pole(0, 3, 1, 2, k / 2, k % 2), (1 + k / 2) * ONE);
         }
     }
 
@@ -120,6 +121,7 @@ public final class SpeedTest {
         for (int k = 0; k < 6; k++) {
             check.due("moment " + k, house.moment(0, k / 2, k % 2), want[k]);
         }
+        check.due("moment at INPUT 3", house.moment(0, 3, 0), 0);
         // 1,000 times 60 times 8 is above 2^15: OPEN.
         MechanismHouse strong = Check.linked("fix A 0 0;crank B A 60 0 8 0;");
         strong.load(1, 0, 1000);

@@ -85,6 +85,12 @@ public final class WaysTest {
         house = Check.linked("fix A 0 0;fix B 3 0;dyad C A B 1 2 +;");
         check.due("ways of a doubtful one", house.ways(), 1);
         check.due("a doubtful one", house.way(0, 1), 0);
+        box(house, 0, 2, 0, 65535, 65538);
+        box(house, 0, 2, 1, 0, 768);
+        // A root above 2^23: 160 times 3 / 8.
+        house = Check.linked("fix A 0 0;fix B 3/8 0;dyad C A B 60 60 +;");
+        box(house, 0, 2, 0, 12288, 12288);
+        box(house, 0, 2, 1, 3932140, 3932141);
         final MechanismHouse far = Check.linked("fix A 0 0;fix B 9 0;dyad C A B 4 4 ?;");
         check.due("ways of none", far.ways(), 0);
         check.refuses("at of none", Check.MISSING, () -> far.at(0, 0, 0, 0));
@@ -102,6 +108,10 @@ public final class WaysTest {
         box(house, 0, 3, 0, 4 * ONE, 4 * ONE);
         box(house, 0, 4, 0, -4 * ONE, -4 * ONE);
         box(house, 0, 5, 0, 4 * ONE, 4 * ONE);
+        house = Check.linked("fix A 0 3;fix D -1 0;fix E 2 0;slide C A 3 D E ?;");
+        check.due("a doubtful slide", house.way(1, 1), 0);
+        box(house, 0, 3, 0, -1, 770);
+        box(house, 1, 3, 0, -769, 2);
         house = Check.linked("fix A 0 3;fix D -2 0;fix E 2 0;slide C A 2 D E ?;");
         check.due("ways of none", house.ways(), 0);
     }
@@ -174,6 +184,11 @@ public final class WaysTest {
         check.refuses("NONE isn't asked there", Check.MISSING, () -> house.at(0, 6, 0, 0));
         check.due("ways", house.ways(), 2);
         check.due("in doubt", house.way(1, 1), 0);
+        // What is divided is OPEN, what it is divided by isn't.
+        MechanismHouse lines = Check.linked("fix A 0 0;fix B 60 0;body D A B 60 0;crank E D 60 0 1 256;"
+                + "cross C A B D E;");
+        check.due("E isn't OPEN", lines.at(0, 3, 1, 0), 60 * ONE);
+        check.refuses("C is OPEN", Check.MISSING, () -> lines.at(0, 4, 1, 0));
         // 2^31 itself is not above 2^31.
         MechanismHouse edge = Check.linked("fix A 0 0;fix B 32 0;body C A B 32 0;body D A C 32 0;body E A C -32 0;"
                 + "crank F D 1/9999 0 1 0;");
