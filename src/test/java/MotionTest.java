@@ -57,7 +57,10 @@ public final class MotionTest {
         range(house, 0, 0, 366, 1, 518);
         house = Check.linked("fix A 0 0;fix B 4 0;crank C A 3 0 1 818;dyad D C B 2 2 +;");
         range(house, 0, 0, 365, 1, 0);
+        check.due("C is lowest at place 0", house.spread(0, 0, 2, 1, 0), house.at(0, 2, 1, 0));
         range(house, 0, 3, 1024, 1, 0);
+        house = Check.linked("fix A 0 0;fix B 4 0;crank C A 3 0 2 818;dyad D C B 2 2 +;");
+        range(house, 0, 0, 346, 2, 0);
         house = Check.linked("fix A 0 0;fix B 4 0;crank C A 3 0 1 172;dyad D C B 2 2 +;");
         range(house, 0, 0, 408, 1, 617);
         house = Check.linked("fix A 0 0;fix B 40 0;crank C A 3 0 1 0;dyad D C B 2 2 +;");
@@ -132,6 +135,10 @@ public final class MotionTest {
 
     private static void wrong() {
         MechanismHouse house = Check.linked(ROCKER);
+        check.due("step of 255", house.step(255, 0, 0), 0);
+        check.due("range of 255", house.range(255, 0, 2), 818);
+        check.due("spread of 255", house.spread(255, 0, 3, 1, 0), -131086);
+        check.due("least of 255", house.least(255, 0, 2, 1, 0), 65536);
         check.refuses("step w", Check.BAD, () -> house.step(256, 0, 1));
         check.refuses("step w", Check.BAD, () -> house.step(-1, 0, 1));
         check.refuses("step i", Check.BAD, () -> house.step(0, 4, 1));

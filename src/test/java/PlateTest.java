@@ -138,6 +138,9 @@ public final class PlateTest {
         far(house, 0, 1);
         plate(house, 1, 6, 2, 6, 2, 6, 2);
         far(house, 4, 1);
+        // A point that comes in by one edge, and not with the first corner.
+        plate(house, 1, 5, -5, 2, 1, -1, -5);
+        far(house, 0, 1);
         // A corner, not the first, touches an edge from without.
         plate(house, 1, 5, -5, 2, 0, -1, -5);
         far(house, 0, 1);

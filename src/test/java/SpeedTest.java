@@ -9,6 +9,7 @@ public final class SpeedTest {
     public static void main(String[] args) {
         cranks();
         machine();
+        againstMotion();
         openSpeeds();
         poles();
         loads();
@@ -59,6 +60,55 @@ public final class SpeedTest {
         speed(house, 2, 9, new long[] {0, 0, 0, 0});
         speed(house, 3, 9, new long[] {0, 0, 0, 0});
         check.due("the places stay", house.count(2), 100);
+    }
+
+    /** Each speed against how far the POINT goes from the place before to the place behind. */
+    private static void againstMotion() {
+        String base = "fix A 0 0;fix B 9 1;crank C A 2 0 1 0;crank D B 3 0 -1 100;crank E B 6 0 2 700;";
+        String[] lasts = {"slide P C 14 D E +;", "slide P C 14 D E -;", "cross P A C D E;", "body P C E 1/3 -1/2;",
+            "dyad P C D 12 11 -;", "dyad P E C 15 14 +;", "cross P C D E B;", "crank P C 2 0 -3 9;"};
+        for (int last = 0; last < lasts.length; last++) {
+            MechanismHouse house = Check.linked(base + lasts[last]);
+            int compared = 0;
+            for (int k = 1; k < 1023; k += 7) {
+                for (int axis = 0; axis < 2; axis++) {
+                    compared += isCompared(house, k, axis, lasts[last]) ? 1 : 0;
+                }
+            }
+            check.due("how many are compared of " + lasts[last], compared >= 60 ? 1 : 0, 1);
+        }
+    }
+
+    private static boolean isSure(MechanismHouse house, int k) {
+        house.input(0, k);
+        return house.ways() == 1 && house.way(0, 1) == 1;
+    }
+
+    private static boolean isCompared(MechanismHouse house, int k, int axis, String text) {
+        if (!isSure(house, k - 1) || !isSure(house, k + 1) || !isSure(house, k)) {
+            return false;
+        }
+        double speed;
+        try {
+            speed = (house.speed(0, 0, 5, axis, 0) + house.speed(0, 0, 5, axis, 1)) / 2.0;
+        } catch (java.util.NoSuchElementException e) {
+            return false;
+        }
+        house.input(0, k - 1);
+        double before = house.at(0, 5, axis, 0) + house.at(0, 5, axis, 1);
+        house.input(0, k + 1);
+        double behind = house.at(0, 5, axis, 0) + house.at(0, 5, axis, 1);
+        double gone = (behind - before) / 2 / (angle(k + 1) - angle(k - 1));
+        if (Math.abs(speed) > 20 * ONE) {
+            return false;
+        }
+        boolean like = Math.abs(gone - speed) < 0.06 * ONE + 0.05 * Math.abs(speed);
+        check.due("speed " + speed + " at " + k + ", gone " + gone + ", of " + text, like ? 1 : 0, 1);
+        return true;
+    }
+
+    private static double angle(int k) {
+        return k / 256 * Math.PI / 2 + 2 * Math.atan(k % 256 / 256.0);
     }
 
     private static void openSpeeds() {
@@ -128,6 +178,13 @@ public final class SpeedTest {
         check.refuses("an OPEN moment", Check.MISSING, () -> strong.moment(0, 0, 0));
         strong.load(1, 0, 68);
         check.due("it fits", strong.moment(0, 0, 0), -68 * 480 * ONE);
+        MechanismHouse edge = Check.linked("fix A 0 0;crank B A 8 0 8 0;");
+        edge.load(1, 0, 512);
+        check.due("2^31 isn't OPEN", edge.moment(255, 0, 0), -(1L << 31));
+        edge.load(1, 0, -512);
+        check.due("nor is it below 0", edge.moment(0, 0, 1), 1L << 31);
+        edge.load(1, 0, 513);
+        check.refuses("more is", Check.MISSING, () -> edge.moment(0, 0, 0));
         MechanismHouse not = Check.linked(ROCKER);
         not.input(0, 500);
         check.refuses("not SURE", Check.REFUSED, () -> not.moment(0, 0, 0));
@@ -184,6 +241,11 @@ public final class SpeedTest {
 
     private static void wrong() {
         MechanismHouse house = Check.linked(MACHINE);
+        house.input(0, 100);
+        check.due("speed of 255", house.speed(255, 0, 2, 1, 0), 96366);
+        check.due("pole of 255", house.pole(255, 0, 2, 3, 0, 0), 260009);
+        house.mass(1, 1);
+        check.due("middle of 255", house.middle(255, 0, 0), 4 * ONE);
         check.refuses("speed w", Check.BAD, () -> house.speed(256, 0, 0, 0, 0));
         check.refuses("speed i", Check.BAD, () -> house.speed(0, -1, 0, 0, 0));
         check.refuses("speed axis", Check.BAD, () -> house.speed(0, 0, 0, -1, 0));

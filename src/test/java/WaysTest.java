@@ -112,6 +112,10 @@ public final class WaysTest {
         check.due("a doubtful slide", house.way(1, 1), 0);
         box(house, 0, 3, 0, -1, 770);
         box(house, 1, 3, 0, -769, 2);
+        // h is -3 .. 0: doubtful, not NONE.
+        house = Check.linked("fix A 0 1/3;fix D 0 0;fix E 1 0;slide C A 3330/9991 D E +;");
+        check.due("h ends with 0", house.ways(), 1);
+        box(house, 0, 3, 0, 0, 0);
         house = Check.linked("fix A 0 3;fix D -2 0;fix E 2 0;slide C A 2 D E ?;");
         check.due("ways of none", house.ways(), 0);
     }
