@@ -131,6 +131,11 @@ public final class CamTest {
         downs = "fall 30 1/9949 1;fall 30 1/9967 1;fall 30 1/9973 1;";
         cam(ups + downs + "dwell 180;", 7);
         lift(90, 1, 9967L * 9949 + 9973L * 9949 + 9973L * 9967, 9973L * 9967 * 9949);
+        // No product is above 10^15 here, but a sum of two is.
+        ups = "rise 10 9972/9973 1;rise 10 9966/9967 1;rise 10 9948/9949 1;";
+        downs = "fall 10 9948/9949 1;fall 10 9966/9967 1;fall 10 9972/9973 1;dwell 280;";
+        fault(ups + "rise 10 527/211 1;fall 10 527/211 1;" + downs, 8, 166);
+        cam(ups + "rise 10 372/211 1;fall 10 372/211 1;" + downs, 9);
     }
 
     private static void keeping() {
@@ -146,6 +151,11 @@ public final class CamTest {
         check.refuses("a seventh power", Check.REFUSED, () -> house.lift(1, 997, 0));
         lift(180 * 997 + 1, 997, 180 * 997 - 1, 97L * 180 * 997);
         check.refuses("bad ahead of REFUSED", Check.BAD, () -> house.lift(1, 997, 2));
+        // 10^15 itself is not above 10^15.
+        cam("rise 1 1/2 3;fall 359 1/2 1;", 2);
+        lift(1, 1000, 4992503, 1000000000000000L);
+        cam("rise 1 1/3 3;fall 359 1/3 1;", 2);
+        check.refuses("more than that", Check.REFUSED, () -> house.lift(1, 1000, 0));
     }
 
     private static void wrong() {

@@ -74,6 +74,11 @@ public final class DriveTest {
         run(house, "until 0 500 C + -9999/9998;", 0, 0, 0, 0, 512);
         run(house, "until 0 500 C + -1;", 0, 1, 0, 0, 513);
         run(house, "until 0 0 C + 9999;", 0, 0, 0, 0, 513);
+        // At 128 C stands at 3 / 5, 4 / 5: its lesser numbers are not above these.
+        house.input(0, 100);
+        run(house, "until 0 99 C - 4/5;", 0, 29, 0, 0, 129);
+        house.input(0, 150);
+        run(house, "until 0 -99 C + 3/5;", 0, 23, 0, 0, 127);
         MechanismHouse rocker = Check.linked(ROCKER);
         run(rocker, "until 0 1023 C - 2;until 0 1023 C - 3;", 1, 173, 0, 0, 98);
         rocker.input(0, 500);

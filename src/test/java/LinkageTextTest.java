@@ -182,6 +182,9 @@ public final class LinkageTextTest {
     }
 
     private static void points() {
+        house = Check.linked("fix bcdefghi 1 0;");
+        Check.type(house, "Abcdefghi");
+        check.due("point() of nine letters", house.point(), -1);
         house = Check.linked("fix A 1 0;fix Abcdefgh 1 0;fix b 0 0;");
         String[] names = {"A", "Abcdefgh", "b", "B", "a", "A ", " A", "", "Abcdefghi", "Abcdefg", "A;", "1", "AA"};
         int[] want = {0, 1, 2, -1, -1, -1, -1, -1, -1, -1, -1, -1, -1};

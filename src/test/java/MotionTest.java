@@ -148,12 +148,14 @@ public final class MotionTest {
         check.refuses("range what", Check.BAD, () -> house.range(0, 0, 3));
         check.refuses("range what", Check.BAD, () -> house.range(0, 0, -1));
         check.refuses("spread w", Check.BAD, () -> house.spread(-1, 0, 0, 0, 0));
+        check.refuses("spread w", Check.BAD, () -> house.spread(256, 0, 0, 0, 0));
         check.refuses("spread i", Check.BAD, () -> house.spread(0, 4, 9, 0, 0));
         check.refuses("spread axis", Check.BAD, () -> house.spread(0, 0, 0, 2, 0));
         check.refuses("spread side", Check.BAD, () -> house.spread(0, 0, 0, 0, -1));
         check.refuses("spread p", Check.MISSING, () -> house.spread(0, 0, 4, 0, 0));
         check.refuses("spread p", Check.MISSING, () -> house.spread(0, 0, -1, 0, 0));
-        check.refuses("least w", Check.BAD, () -> house.least(300, 0, 0, 0, 0));
+        check.refuses("least w", Check.BAD, () -> house.least(256, 0, 0, 0, 0));
+        check.refuses("least w", Check.BAD, () -> house.least(-1, 0, 0, 0, 0));
         check.refuses("least i", Check.BAD, () -> house.least(0, -1, 0, 0, 0));
         check.refuses("least side", Check.BAD, () -> house.least(0, 0, 0, 9, 2));
         check.refuses("least p", Check.MISSING, () -> house.least(0, 0, 4, 0, 0));

@@ -160,6 +160,12 @@ public final class PlateTest {
         plate(house, 0, -1000, 1000, -1000, 999, 999, -1000);
         plate(house, 1, 1000, -999, 1000, 1000, 999, 1000);
         far(house, 3999 * 3999, 1999 * 1999 + 2000 * 2000);
+        plate(house, 7, 0, 0, 4, 0, 4, 4, 0, 4);
+        plate(house, 6, 6, 0, 6, 4, 9, 9);
+        check.due("of 7 and 6", house.distance(7, 6, 0), 4);
+        check.due("of 6 and 7", house.distance(6, 7, 1), 1);
+        check.due("area of 7", house.plate(7, 0), 32);
+        check.due("inside of 7", house.inside(7, 1, 1), 1);
         check.due("of a plate and itself", house.distance(0, 0, 0), 0);
         check.due("of a plate and itself", house.distance(0, 0, 1), 1);
     }

@@ -188,6 +188,11 @@ public final class WaysTest {
         check.refuses("NONE isn't asked there", Check.MISSING, () -> house.at(0, 6, 0, 0));
         check.due("ways", house.ways(), 2);
         check.due("in doubt", house.way(1, 1), 0);
+        // A product is OPEN though the sum that it stands in would not be.
+        MechanismHouse sum = Check.linked("fix O 0 0;fix U -60 0;fix V 60 0;body A O U 60 0;body B O V 9 0;"
+                + "body C A B 8 0;body D A B 7 0;");
+        check.refuses("8 times 4140", Check.MISSING, () -> sum.at(0, 5, 0, 0));
+        box(sum, 0, 6, 0, (7 * 4140 - 3600) * ONE, (7 * 4140 - 3600) * ONE);
         // What is divided is OPEN, what it is divided by isn't.
         MechanismHouse lines = Check.linked("fix A 0 0;fix B 60 0;body D A B 60 0;crank E D 60 0 1 256;"
                 + "cross C A B D E;");
