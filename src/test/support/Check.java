@@ -10,6 +10,10 @@ final class Check {
         void run();
     }
 
+    interface NumberCall {
+        void run(int n);
+    }
+
     private int wrong;
 
     void due(String call, long got, long want) {
@@ -29,6 +33,31 @@ final class Check {
         if (!got.equals(want.getName())) {
             wrong++;
             System.out.println(call + " threw " + got + ", due is " + want.getName());
+        }
+    }
+
+    void good(String call, Call run) {
+        try {
+            run.run();
+        } catch (RuntimeException e) {
+            wrong++;
+            System.out.println(call + " threw " + e.getClass().getName() + ", due is no exception");
+        }
+    }
+
+    /** The two ends of a range are good; the numbers next to them and the farthest ones are bad. */
+    void range(String call, int low, int high, NumberCall run) {
+        good(call + " with " + low, () -> run.run(low));
+        good(call + " with " + high, () -> run.run(high));
+        outside(call, low, high, BAD, run);
+    }
+
+    /** The numbers next to a range, and the farthest ones, are refused. */
+    void outside(String call, int low, int high, Class<? extends RuntimeException> want, NumberCall run) {
+        int[] beside = {low - 1, high + 1, Integer.MIN_VALUE, Integer.MAX_VALUE};
+        for (int k = 0; k < beside.length; k++) {
+            final int n = beside[k];
+            refuses(call + " with " + n, want, () -> run.run(n));
         }
     }
 
