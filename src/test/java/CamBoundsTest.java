@@ -62,14 +62,14 @@ public final class CamBoundsTest {
         check.due("a LINKAGE leaves it", house.camAbout(3), 1);
     }
 
-    /** Rises (falls behind a -), each ten degrees wide, then the same back again, then a dwell for the rest. */
-    private static String thereAndBack(String... lifts) {
+    /** Rises (falls behind a -), ten degrees each, then the same back in an order, then a dwell for the rest. */
+    private static String thereAndBack(int[] order, String... lifts) {
         StringBuilder text = new StringBuilder();
         for (int k = 0; k < lifts.length; k++) {
             text.append(statement(lifts[k], false));
         }
-        for (int k = lifts.length - 1; k >= 0; k--) {
-            text.append(statement(lifts[k], true));
+        for (int k = 0; k < lifts.length; k++) {
+            text.append(statement(lifts[order[k]], true));
         }
         return text + "dwell " + (360 - 20 * lifts.length) + ";";
     }
@@ -81,28 +81,36 @@ public final class CamBoundsTest {
 
     /** "One is TOO LARGE if .. the sum of two .. is above 10^15": 10^15 isn't, 10^15 + 1 is. */
     private static void sumOfTwo() {
+        int[] order = {0, 1, 2, 3};
         // The four come to 10^15 / (9973 9967 9949 1009).
-        cam(thereAndBack("3244/9973", "4955/9967", "1315/9949", "48/1009"), 9);
+        cam(thereAndBack(order, "3244/9973", "4955/9967", "1315/9949", "48/1009"), 9);
         lift(40, 1, LIMIT, 9973L * 9967 * 9949 * 1009);
         // These to (10^15 + 1) / the same.
-        fault(thereAndBack("-1", "894/9973", "3711/9967", "9565/9949", "584/1009"), 8);
-        cam(thereAndBack("-1", "894/9973", "3711/9967", "9565/9949", "583/1009"), 11);
+        int[] five = {4, 3, 2, 1, 0};
+        fault(thereAndBack(five, "-1", "894/9973", "3711/9967", "9565/9949", "584/1009"), 8);
+        cam(thereAndBack(five, "-1", "894/9973", "3711/9967", "9565/9949", "583/1009"), 11);
+        // The sum of two is 10^15, then 10^15 + 2: in lowest terms it would be half of that, but it isn't asked so.
+        cam(thereAndBack(order, "2362/9973", "4576/9967", "1509/9946", "1177/998"), 9);
+        lift(40, 1, LIMIT / 2, 9973L * 9967 * 4973 * 499);
+        fault(thereAndBack(order, "6601/9973", "1351/9967", "699/9946", "1157/998"), 8);
     }
 
     /** "a product in it (of two numbers, as told)": a (d / g), c (b / g), b (d / g), each alone. */
     private static void productsInASum() {
+        int[] order = {0, 1, 2, 3};
         // a = 10^12, d = 1,000.
-        cam(thereAndBack("760/9973", "2159/9967", "7147/9949", "-7/1000"), 9);
+        cam(thereAndBack(order, "760/9973", "2159/9967", "7147/9949", "-7/1000"), 9);
         // a = 10^12 + 1.
-        fault(thereAndBack("3184/9973", "2805/9967", "4084/9949", "-7/1000"), 8);
+        fault(thereAndBack(order, "3184/9973", "2805/9967", "4084/9949", "-7/1000"), 8);
         // b = 9973 9967 9949: c = 1,011 fits, 1,012 and more don't.
-        cam(thereAndBack("-1", "1/9973", "1/9967", "1/9949", "1011/1000"), 11);
-        fault(thereAndBack("-1", "1/9973", "1/9967", "1/9949", "1013/1000"), 8);
+        int[] five = {1, 0, 2, 3, 4};
+        cam(thereAndBack(five, "-1", "1/9973", "1/9967", "1/9949", "1011/1000"), 11);
+        fault(thereAndBack(five, "-1", "1/9973", "1/9967", "1/9949", "1013/1000"), 8);
         // d = 1,009 fits, 1,012 and more don't.
-        cam(thereAndBack("1/9973", "1/9967", "1/9949", "1/1009"), 9);
-        fault(thereAndBack("1/9973", "1/9967", "1/9949", "1/1013"), 8);
+        cam(thereAndBack(order, "1/9973", "1/9967", "1/9949", "1/1009"), 9);
+        fault(thereAndBack(order, "1/9973", "1/9967", "1/9949", "1/1013"), 8);
         // With g = 1,009 once more: nothing grows.
-        cam(thereAndBack("1/9973", "1/9967", "1/9949", "1/1009", "1008/1009"), 11);
+        cam(thereAndBack(five, "1/9973", "1/9967", "1/9949", "1/1009", "1008/1009"), 11);
     }
 
     /** "The lift at p / q (q 1 .. 1,000 ..): what 0 its p, 1 its q. Bad". */
@@ -178,6 +186,13 @@ public final class CamBoundsTest {
         lift(999, 1000, 499999995007497L, 500000000000000L);
         cam("rise 1 2 3;fall 359 2 1;", 2);
         lift(999, 1000, 499999995007497L, 250000000000000L);
+        // By GCD first: 4 and 40 go into 5 10^14, 3 and 60 don't.
+        cam("rise 1 4 3;fall 359 4 1;", 2);
+        lift(999, 1000, 499999995007497L, 125000000000000L);
+        cam("rise 1 40 3;fall 359 40 1;", 2);
+        lift(999, 1000, 499999995007497L, 12500000000000L);
+        cam("rise 1 60 3;fall 359 60 1;", 2);
+        check.refuses("3 times 499999995007497", Check.REFUSED, () -> house.lift(999, 1000, 0));
         cam("rise 1 3 3;fall 359 3 1;", 2);
         check.refuses("3 times 499999995007497", Check.REFUSED, () -> house.lift(999, 1000, 0));
         lift(1, 1000, 14977509, 500000000000000L);
@@ -210,6 +225,13 @@ public final class CamBoundsTest {
         check.refuses("1,994 b", Check.REFUSED, () -> house.lift(3 * 997 + 1, 997, 0));
         check.refuses("1,994 b", Check.REFUSED, () -> house.lift(4 * 997 + 996, 997, 0));
         lift(4, 1, 2 * a + b, 2 * b);
+        // What came before, and 571 / 997, come to 10^15 / (997 b); with the others and 360 / 997 to one more.
+        cam("fall 1 1 1;rise 1 3133/9973 1;rise 1 3815/9967 1;rise 1 7408/9949 1;rise 1 1 1;"
+                + "fall 1 1 1;fall 1 7408/9949 1;fall 1 3815/9967 1;fall 1 3133/9973 1;rise 351 1 1;", 10);
+        lift(4 * 997 + 571, 997, LIMIT, 997 * b);
+        cam("fall 1 1 1;rise 1 5026/9973 1;rise 1 2646/9967 1;rise 1 8792/9949 1;rise 1 1 1;"
+                + "fall 1 1 1;fall 1 8792/9949 1;fall 1 2646/9967 1;fall 1 5026/9973 1;rise 351 1 1;", 10);
+        check.refuses("10^15 + 1", Check.REFUSED, () -> house.lift(4 * 997 + 360, 997, 0));
     }
 
     /** "p / q, q above 0, in lowest terms (0: 0 / 1)". */

@@ -16,6 +16,7 @@ public final class CamTest {
     }
 
     private static void cam(String text, int statements) {
+        house = new MechanismHouse();
         Check.type(house, text);
         check.due("cam of " + text, house.cam(), statements);
         check.due("fault(0) of " + text, house.fault(0), 0);

@@ -252,6 +252,16 @@ public final class GearBoundsTest {
         turns(house, 6, LIMIT / 2, 1);
         // 346 381 369 259 493 161 = 10^15 + 40,958.
         check.due("a little more", row(true, 1384, 1524, 1476, 1036, 1972, 644).solved(), 3);
+        // What was TOO LARGE is forgotten with the rows.
+        house.shaft(0, 2, 2, 1);
+        check.due("TOO LARGE once more", house.solved(), 3);
+        house.clear();
+        house.gear(10, 0);
+        house.gear(20, 1);
+        house.mesh(0, 1, false, -1);
+        check.due("a pair", house.solved(), 1);
+        house.shaft(0, 1, 0, 0);
+        turns(house, 1, 0, 1);
         MechanismHouse told = row(true, 2000, 2000, 2000, 2000, 64);
         told.shaft(0, 2, 1000, 1);
         turns(told, 5, -LIMIT, 1);

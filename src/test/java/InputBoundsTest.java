@@ -68,24 +68,25 @@ public final class InputBoundsTest {
 
     /** "INPUT: bytes gathered by feed and end, at most 4,000." All 4,000 are read. */
     private static void inputOf4000() {
-        MechanismHouse house = new MechanismHouse();
         StringBuilder text = new StringBuilder();
         while (text.length() < 3990) {
             text.append(' ');
         }
-        Check.type(house, text + "fix A 0 0;");
-        check.due("length", house.count(10), 4000);
-        check.due("linkage", house.linkage(), 1);
-        Check.type(house, text + "fix A 0 0 ");
-        check.refuses("without its end", Check.FAULT, () -> house.linkage());
-        check.due("fault(0)", house.fault(0), 1);
-        check.due("fault(1)", house.fault(1), 4000);
-        Check.type(house, text + "fix A 0 0;");
-        house.end(3999);
-        check.refuses("one byte less", Check.FAULT, () -> house.linkage());
-        check.due("fault(1)", house.fault(1), 3999);
-        check.due("empty again", house.feed(0x20202020, 0x20202020, 0x20202020, 0x20202020, 0x20202020), 20);
-        check.due("of spaces", house.linkage(), 0);
+        MechanismHouse whole = new MechanismHouse();
+        Check.type(whole, text + "fix A 0 0;");
+        check.due("length", whole.count(10), 4000);
+        check.due("linkage", whole.linkage(), 1);
+        Check.type(whole, text + "fix A 0 0 ");
+        check.refuses("without its end", Check.FAULT, () -> whole.linkage());
+        check.due("fault(0)", whole.fault(0), 1);
+        check.due("fault(1)", whole.fault(1), 4000);
+        MechanismHouse less = new MechanismHouse();
+        Check.type(less, text + "fix A 0 0;");
+        less.end(3999);
+        check.refuses("one byte less", Check.FAULT, () -> less.linkage());
+        check.due("fault(1)", less.fault(1), 3999);
+        check.due("empty again", less.feed(0x20202020, 0x20202020, 0x20202020, 0x20202020, 0x20202020), 20);
+        check.due("of spaces", less.linkage(), 0);
     }
 
     /** "its length. FULL." */

@@ -5,11 +5,17 @@ public final class LinkageTextTest {
 
     public static void main(String[] args) {
         good();
+        house = new MechanismHouse();
         grammar();
+        house = new MechanismHouse();
         tokens();
+        house = new MechanismHouse();
         names();
+        house = new MechanismHouse();
         numbers();
+        house = new MechanismHouse();
         limits();
+        house = new MechanismHouse();
         order();
         keeping();
         points();

@@ -71,11 +71,15 @@ public final class MotionTest {
     }
 
     private static void sameAsOneByOne() {
-        MechanismHouse house = Check.linked(ROCKER);
+        MechanismHouse house = null;
         int sure = 0;
         long least = Long.MAX_VALUE;
         long greatest = Long.MIN_VALUE;
         for (int k = 0; k < 1024; k++) {
+            // An object answers 512 calls, no more.
+            if (k % 64 == 0) {
+                house = Check.linked(ROCKER);
+            }
             house.input(0, k);
             if (house.ways() > 0 && house.way(0, 1) == 1) {
                 sure++;

@@ -224,6 +224,19 @@ public final class PlateBoundsTest {
         plate(house, 1, 0, 0, 4, 0, 0, 4, 0, 6, 4, 6, 1, 1);
         check.due("i", house.plate(1, 7), 1);
         check.due("j", house.plate(1, 8), 4);
+        // The least bow: each end is next to the other edge's line. From each of its corners, both ways round.
+        int[] bow = {0, 0, 1, 1, 1, 0, 0, 1};
+        for (int first = 0; first < 4; first++) {
+            for (int way = 1; way <= 3; way += 2) {
+                house.empty(4);
+                for (int k = 0; k < 4; k++) {
+                    int corner = (first + way * k) % 4;
+                    house.corner(4, bow[2 * corner], bow[2 * corner + 1]);
+                }
+                check.due("the least bow, i", house.plate(4, 7), (first + way / 3) % 2);
+                check.due("the least bow, j", house.plate(4, 8), (first + way / 3) % 2 + 2);
+            }
+        }
         // A corner on an edge, an end on an end.
         plate(house, 2, 0, 0, 8, 0, 8, 8, 4, 0, 0, 8);
         check.due("a corner on an edge, i", house.plate(2, 7), 0);
@@ -315,6 +328,27 @@ public final class PlateBoundsTest {
         far(house, 0, 1);
         plate(house, 1, -1, 2, 5, 2, 5, 3, -1, 3);
         far(house, 0, 1);
+        // Two long thin ones that cross, with no corner in the other; turned about in all ways.
+        int[] thin = {-1, 0, 2, 1, 2, 1};
+        int[] other = {0, 1, 1, 0, 1, 0};
+        for (int turn = 0; turn < 8; turn++) {
+            int[] a = new int[6];
+            int[] b = new int[6];
+            for (int k = 0; k < 6; k += 2) {
+                int at = turn < 4 ? k : 4 - k;
+                a[k] = turn % 2 == 0 ? thin[at] : thin[at + 1];
+                a[k + 1] = turn % 2 == 0 ? thin[at + 1] : thin[at];
+                b[k] = turn % 2 == 0 ? other[at] : other[at + 1];
+                b[k + 1] = turn % 2 == 0 ? other[at + 1] : other[at];
+                if (turn % 4 >= 2) {
+                    a[k] = -a[k];
+                    b[k] = -b[k];
+                }
+            }
+            plate(house, 0, a);
+            plate(house, 1, b);
+            far(house, 0, 1);
+        }
         far(house, house.distance(0, 0, 0), house.distance(1, 1, 1));
     }
 

@@ -102,6 +102,15 @@ public final class SpeedBoundsTest {
             speed(house, i, 1, 0, i == 3 ? 3 * ONE : 0);
             speed(house, i, 2, i == 3 ? -4 * ONE : 0, 0);
         }
+        // Where a crank was told before, a fixed POINT rests.
+        MechanismHouse other = Check.linked("crank B A 2 0 1 0;fix A 0 0;");
+        speed(other, 0, 0, 0, 2 * ONE);
+        for (int k = 0; k < 3; k++) {
+            Check.type(other, "fix A 0 0;crank B A 2 0 1 0;");
+            other.linkage();
+            speed(other, 0, 0, 0, 0);
+            speed(other, 0, 1, 0, 2 * ONE);
+        }
     }
 
     /** "N R TURNED(the turned DIR)": N -8, 0 and 8 with R 60 and 1 / 9,999. */
@@ -248,6 +257,19 @@ public final class SpeedBoundsTest {
         check.range("moment side", 0, 1, side -> house.moment(0, 3, side));
         check.due("bits of no ?", house.moment(254, 3, 0), -3 * ONE);
         check.due("of no POINTS", new MechanismHouse().moment(0, 0, 1), 0);
+        // The first POINT and the last one of 40.
+        StringBuilder text = new StringBuilder("crank B A 2 0 1 0;fix A 0 0;");
+        for (int k = 0; k < 38; k++) {
+            text.append("crank P").append((char) ('a' + k / 26)).append((char) ('a' + k % 26)).append(" A 3 0 1 0;");
+        }
+        MechanismHouse forty = Check.linked(text.toString());
+        forty.load(0, 0, 10);
+        check.due("the first", forty.moment(0, 0, 0), -20 * ONE);
+        forty.load(39, 0, 100);
+        check.due("the last, too", forty.moment(0, 0, 1), -320 * ONE);
+        forty.mass(0, 1);
+        forty.mass(39, 3);
+        check.due("their middle", forty.middle(0, 0, 0), 11 * ONE / 4);
     }
 
     /** "(.. POINTS with 0, 0 are left out)": an OPEN speed without a load doesn't matter. */
@@ -283,6 +305,16 @@ public final class SpeedBoundsTest {
         house.load(1, 0, 513);
         house.load(2, 0, -1000);
         check.refuses("a term above 2^31", Check.MISSING, () -> house.moment(0, 0, 0));
+        // C's speed is -64, 64: a product above 2^31, though it would come to less with the other one.
+        MechanismHouse both = Check.linked("fix A 0 0;crank B A 8 0 8 0;body C A B 1 1;");
+        both.load(2, 500, 512);
+        check.due("a product of 2^31", both.moment(0, 0, 0), -768 * ONE);
+        both.load(2, 500, 513);
+        check.refuses("one above it", Check.MISSING, () -> both.moment(0, 0, 0));
+        both.load(2, 513, 500);
+        check.refuses("the first of them", Check.MISSING, () -> both.moment(0, 0, 0));
+        both.load(2, 512, 500);
+        check.due("the first of them 2^31", both.moment(0, 0, 0), 768 * ONE);
     }
 
     /** "missing: OPEN": a POINT with a load whose speed is OPEN; for an INPUT at rest it isn't. */
@@ -356,5 +388,12 @@ public final class SpeedBoundsTest {
         house.mass(2, 500);
         house.mass(3, 500);
         check.due("not on the way", house.middle(0, 0, 0), 0);
+        // A product above 2^31, though the sum so far is below 0.
+        MechanismHouse left = Check.linked("fix A 0 0;fix B 32 0;body D A B -2 0;body C A B 2 0;");
+        left.mass(2, 500);
+        left.mass(3, 512);
+        check.due("a product of 2^31", left.middle(0, 0, 0), 12 * 64 * ONE / 1012);
+        left.mass(3, 513);
+        check.refuses("one above it", Check.MISSING, () -> left.middle(0, 0, 0));
     }
 }

@@ -68,9 +68,13 @@ public final class SpeedTest {
         String[] lasts = {"slide P C 14 D E +;", "slide P C 14 D E -;", "cross P A C D E;", "body P C E 1/3 -1/2;",
             "dyad P C D 12 11 -;", "dyad P E C 15 14 +;", "cross P C D E B;", "crank P C 2 0 -3 9;"};
         for (int last = 0; last < lasts.length; last++) {
-            MechanismHouse house = Check.linked(base + lasts[last]);
+            MechanismHouse house = null;
             int compared = 0;
             for (int k = 1; k < 1023; k += 7) {
+                // An object answers 512 calls, no more.
+                if (k % 10 == 1) {
+                    house = Check.linked(base + lasts[last]);
+                }
                 for (int axis = 0; axis < 2; axis++) {
                     compared += isCompared(house, k, axis, lasts[last]) ? 1 : 0;
                 }

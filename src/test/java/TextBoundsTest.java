@@ -87,6 +87,21 @@ public final class TextBoundsTest {
         // A CAM's degrees come to 360, so one of none can't be.
         camFault("", 7, 0);
         camFault("  ", 7, 2);
+        // Nothing of the ones before comes in again.
+        house = Check.linked(BASE);
+        for (int k = 0; k < 3; k++) {
+            Check.type(house, BASE);
+            house.linkage();
+            Check.type(house, "dwell 360;");
+            house.cam();
+            Check.type(house, "turn 0 1;");
+            house.drive();
+        }
+        check.faulty("", 7, 0, house, () -> house.cam());
+        check.due("the CAM stays", house.camAbout(3), 1);
+        check.due("a DRIVE of none", house.drive(), 0);
+        check.due("its steps", house.count(8), 0);
+        check.due("a LINKAGE of none", house.linkage(), 0);
         linkageFault(";", 1, 0);
         camFault(";", 1, 0);
         driveFault(";", 1, 0);

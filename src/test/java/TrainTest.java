@@ -1,7 +1,7 @@
 /** Promises 28 and 29: trains, train. */
 public final class TrainTest {
     private static final Check check = new Check();
-    private static final MechanismHouse house = new MechanismHouse();
+    private static MechanismHouse house = new MechanismHouse();
 
     public static void main(String[] args) {
         check.due("trains(1, 1, 4, 4)", house.trains(1, 1, 4, 4), 1);
@@ -44,13 +44,18 @@ public final class TrainTest {
     }
 
     private static void oneByOne(int p, int q, int low, int high) {
-        int all = house.trains(p, q, low, high);
+        int all = new MechanismHouse().trains(p, q, low, high);
         int k = 0;
         for (int a = low; a <= high; a++) {
             for (int c = a; c <= high; c++) {
                 for (int b = low; b <= high; b++) {
                     for (int d = b; d <= high; d++) {
                         if (a * c * q == b * d * p) {
+                            if (k % 100 == 0) {
+                                // An object answers 512 calls, no more.
+                                house = new MechanismHouse();
+                                house.trains(p, q, low, high);
+                            }
                             if (k < 300) {
                                 train(k, a, b, c, d);
                             }

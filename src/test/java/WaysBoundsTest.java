@@ -77,6 +77,24 @@ public final class WaysBoundsTest {
         house.linkage();
         check.due("no load of the one before", house.moment(0, 0, 0), 0);
         check.refuses("no mass of the one before", Check.MISSING, () -> house.middle(0, 0, 0));
+        for (int k = 1; k <= 6; k++) {
+            Check.type(house, "fix A " + k + " 0;crank B A " + k + " 0 1 0;dyad C A B " + k + " " + k + " ?;");
+            house.linkage();
+            box(house, 0, 0, 0, k * ONE, k * ONE);
+            box(house, 0, 1, 0, 2 * k * ONE, 2 * k * ONE);
+            check.due("C of the present one", house.at(1, 2, 0, 0), k * 3 * ONE / 2);
+        }
+        Check.type(house, "fix A 1 0;crank B A 1 0 1 0;dyad C A B 1 1 ?;");
+        house.linkage();
+        house.input(0, 256);
+        house.load(1, 1000, 0);
+        check.due("a load sideways", house.moment(0, 0, 0), 1000 * ONE);
+        for (int k = 0; k < 3; k++) {
+            Check.type(house, "fix A 1 0;crank B A 1 0 1 0;dyad C A B 1 1 ?;");
+            house.linkage();
+            house.input(0, 256);
+            check.due("no load of one before", house.moment(0, 0, 0), 0);
+        }
     }
 
     /** "The number of the POINT whose NAME INPUT is (INPUT stays); -1 if none." */
@@ -245,10 +263,36 @@ public final class WaysBoundsTest {
         check.due("SURE", house.way(0, 1), 1);
         state(lines.replace("fix D 32 -1;fix G 32 1;", "crank X E 32 0 0 0;crank D X 1 0 0 256;crank G X 1 0 0 768;")
                 + "cross C O A D G;", 1, 0);
+        differencesAbove();
         house = Check.linked(lines.replace("32", "-32") + "cross C O A D G;");
         box(house, 0, 7, 0, -32 * ONE, -32 * ONE);
         state(lines.replace("fix D 32 -1;fix G 32 1;", "crank X F 32 0 0 512;crank D X 1 0 0 256;crank G X 1 0 0 768;")
                 + "cross C O A D G;", 1, 0);
+    }
+
+    /** L and R stand 2^31 and one more to the left and to the right, so what lies between them is OPEN. */
+    private static void differencesAbove() {
+        String apart = "fix O 0 0;crank X O 32 0 0 0;body Y O X 32 0;body L O Y -32 0;crank Z O 3 0 0 256;body V Z O 0 0;"
+                + "crank W Z 32 0 0 0;body U Z W 32 0;body R Z U 32 0;fix S 1 0;fix T 0 1;";
+        MechanismHouse house = Check.linked(apart);
+        check.due("SURE", house.way(0, 1), 1);
+        box(house, 0, 3, 0, -FAR, -FAR);
+        box(house, 0, 8, 0, FAR, FAR);
+        box(house, 0, 8, 1, 3 * ONE, 3 * ONE);
+        // Without the OPEN box these would be NONE.
+        state(apart + "dyad C L R 1 1 +;", 1, 0);
+        state(apart + "dyad C R L 1 1 -;", 1, 0);
+        state(apart + "slide C L 1 R T +;", 1, 0);
+        state(apart + "slide C O 1 L R +;", 1, 0);
+        // And these would stand somewhere.
+        String[] open = {"body C L R 0 0;", "cross C L R O T;", "cross C O T L R;", "cross C L T R S;"};
+        for (int k = 0; k < open.length; k++) {
+            MechanismHouse one = Check.linked(apart + open[k]);
+            check.refuses("C of " + open[k], Check.MISSING, () -> one.at(0, 11, 1, 0));
+            check.due("in doubt: " + open[k], one.way(0, 1), 0);
+        }
+        check.refuses("least of L and R", Check.MISSING, () -> house.least(0, 0, 3, 8, 0));
+        check.refuses("least of R and L", Check.MISSING, () -> house.least(0, 0, 8, 3, 1));
     }
 
     /** "or if what is divided by holds 0": at its lesser end, at its greater end, alone; next to it not. */
@@ -386,6 +430,17 @@ public final class WaysBoundsTest {
         check.due("near again", far.ways(), 256);
         far.input(0, 0);
         check.due("too far again", far.ways(), 0);
+        // Of each LINKAGE its own, however many were before.
+        String[] marks = {"+", "?", "?", "-", "?"};
+        String[] widths = {"6", "6", "12", "12", "6"};
+        int[] want = {1, 2, 0, 0, 2};
+        MechanismHouse many = new MechanismHouse();
+        for (int k = 0; k < 25; k++) {
+            int which = k * k % 5;
+            Check.type(many, "fix A 0 0;fix B " + widths[which] + " 0;dyad C A B 5 5 " + marks[which] + ";");
+            many.linkage();
+            check.due("ways of LINKAGE " + k, many.ways(), want[which]);
+        }
     }
 
     /** "The j-th WAY now, from 0 (by w rising): what 0 w, 1 whether it is SURE (1, else 0). Bad what; missing." */
