@@ -8,9 +8,9 @@ import java.util.HashMap;
 import java.util.Map;
 
 /**
- * All promises: runs of calls with the answers that a second program gave (in Python, with whole numbers and
- * fractions of any size; by the same hand, so it reads the document's open places the same way). A line is a
- * call and its answer, or "new".
+ * All promises: runs of calls with the answers that a second program gave, edges.txt a third one (in Python, with
+ * whole numbers and fractions of any size; by the same hand, so they read the document's open places the same way).
+ * A line is a call and its answer, or "new".
  */
 public final class RecordedRunsTest {
     private static final Map<String, Method> methods = new HashMap<>();
