@@ -145,9 +145,14 @@ public final class NothingElseTest {
         nothing("range i", Check.BAD, house -> house.range(0, 4, 0));
         nothing("range what", Check.BAD, house -> house.range(0, 0, 3));
         nothing("spread w", Check.BAD, house -> house.spread(-1, 0, 0, 0, 0));
+        nothing("spread i", Check.BAD, house -> house.spread(0, -1, 0, 0, 0));
+        nothing("spread axis", Check.BAD, house -> house.spread(0, 0, 0, 2, 0));
         nothing("spread side", Check.BAD, house -> house.spread(0, 0, 0, 0, 2));
         nothing("spread p", Check.MISSING, house -> house.spread(1, 0, 6, 0, 0));
+        nothing("least w", Check.BAD, house -> house.least(256, 0, 0, 0, 0));
         nothing("least i", Check.BAD, house -> house.least(0, 4, 0, 0, 0));
+        nothing("least side", Check.BAD, house -> house.least(0, 0, 0, 0, 2));
+        nothing("least p", Check.MISSING, house -> house.least(1, 0, 6, 0, 0));
         nothing("least q", Check.MISSING, house -> house.least(1, 0, 0, 6, 0));
     }
 
@@ -167,13 +172,24 @@ public final class NothingElseTest {
     }
 
     private static void speeds() {
+        nothing("speed w", Check.BAD, house -> house.speed(256, 0, 0, 0, 0));
+        nothing("speed i", Check.BAD, house -> house.speed(0, 4, 0, 0, 0));
         nothing("speed axis", Check.BAD, house -> house.speed(0, 0, 0, 2, 0));
+        nothing("speed side", Check.BAD, house -> house.speed(0, 0, 0, 0, -1));
         nothing("speed p", Check.MISSING, house -> house.speed(0, 0, 6, 0, 0));
+        nothing("pole w", Check.BAD, house -> house.pole(-1, 0, 2, 3, 0, 0));
+        nothing("pole i", Check.BAD, house -> house.pole(0, -1, 2, 3, 0, 0));
+        nothing("pole axis", Check.BAD, house -> house.pole(0, 0, 2, 3, -1, 0));
         nothing("pole side", Check.BAD, house -> house.pole(0, 0, 2, 3, 0, 2));
+        nothing("pole p", Check.MISSING, house -> house.pole(0, 0, 6, 3, 0, 0));
         nothing("pole q", Check.MISSING, house -> house.pole(0, 0, 2, -1, 0, 0));
         nothing("pole of a fixed one", Check.MISSING, house -> house.pole(1, 0, 0, 2, 0, 0));
+        nothing("moment w", Check.BAD, house -> house.moment(256, 0, 0));
         nothing("moment i", Check.BAD, house -> house.moment(0, -1, 0));
+        nothing("moment side", Check.BAD, house -> house.moment(0, 0, 2));
+        nothing("middle w", Check.BAD, house -> house.middle(-1, 0, 0));
         nothing("middle axis", Check.BAD, house -> house.middle(0, 2, 0));
+        nothing("middle side", Check.BAD, house -> house.middle(0, 0, 2));
     }
 
     private static void linked(MechanismHouse house, String text) {
@@ -228,6 +244,7 @@ public final class NothingElseTest {
         nothing("turns what", Check.BAD, house -> house.turns(0, 2));
         nothing("turns, not known", Check.MISSING, house -> house.turns(7, 0));
         nothing("interference a", Check.MISSING, house -> house.interference(4, 0, false));
+        nothing("interference b", Check.MISSING, house -> house.interference(0, 4, true));
     }
 
     private static void fullGears() {
@@ -286,10 +303,15 @@ public final class NothingElseTest {
         nothing("plate p", Check.BAD, house -> house.plate(8, 0));
         nothing("plate what", Check.BAD, house -> house.plate(0, 9));
         nothing("plate of two", Check.MISSING, house -> house.plate(3, 0));
+        nothing("inside p", Check.BAD, house -> house.inside(8, 0, 0));
         nothing("inside x", Check.BAD, house -> house.inside(0, 1001, 0));
+        nothing("inside y", Check.BAD, house -> house.inside(0, 0, -1001));
         nothing("inside of two", Check.MISSING, house -> house.inside(3, 0, 0));
+        nothing("distance p", Check.BAD, house -> house.distance(8, 0, 0));
+        nothing("distance q", Check.BAD, house -> house.distance(0, -1, 0));
         nothing("distance what", Check.BAD, house -> house.distance(0, 7, 2));
-        nothing("distance of two", Check.MISSING, house -> house.distance(0, 3, 0));
+        nothing("distance of two", Check.MISSING, house -> house.distance(3, 0, 0));
+        nothing("distance to two", Check.MISSING, house -> house.distance(0, 3, 0));
         ahead = house -> {
             for (int k = 4; k < 24; k++) {
                 house.corner(0, -k, 4);
