@@ -1,11 +1,7 @@
 import java.io.IOException;
-import java.lang.reflect.InvocationTargetException;
-import java.lang.reflect.Method;
 import java.nio.file.DirectoryStream;
 import java.nio.file.Files;
 import java.nio.file.Path;
-import java.util.HashMap;
-import java.util.Map;
 
 /**
  * All promises: runs of calls with the answers that a second program gave, edges.txt a third one (in Python, with
@@ -13,12 +9,9 @@ import java.util.Map;
  * A line is a call and its answer, or "new".
  */
 public final class RecordedRunsTest {
-    private static final Map<String, Method> methods = new HashMap<>();
+    private static final Caller caller = new Caller();
 
     public static void main(String[] args) throws Exception {
-        for (Method method : MechanismHouse.class.getMethods()) {
-            methods.put(method.getName(), method);
-        }
         int wrong = 0;
         int files = 0;
         try (DirectoryStream<Path> runs = Files.newDirectoryStream(Path.of("src/test/runs"), "*.txt")) {
@@ -44,27 +37,12 @@ public final class RecordedRunsTest {
                 continue;
             }
             String[] sides = row.split(" = ");
-            String got = answer(house, sides[0].split(" "));
+            String got = caller.answer(house, sides[0].split(" "));
             if (!got.equals(sides[1])) {
                 wrong++;
                 System.out.println(file + ":" + line + ": " + sides[0] + " answered " + got + ", due is " + sides[1]);
             }
         }
         return wrong;
-    }
-
-    private static String answer(MechanismHouse house, String[] words) throws IllegalAccessException {
-        Object[] values = new Object[words.length - 1];
-        for (int k = 0; k < values.length; k++) {
-            String word = words[k + 1];
-            boolean truth = word.equals("true") || word.equals("false");
-            values[k] = truth ? (Object) Boolean.valueOf(word) : (Object) Integer.valueOf(word);
-        }
-        try {
-            Object answer = methods.get(words[0]).invoke(house, values);
-            return answer == null ? "void" : answer.toString();
-        } catch (InvocationTargetException e) {
-            return e.getCause().getClass().getSimpleName();
-        }
     }
 }
